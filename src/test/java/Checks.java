@@ -1,8 +1,8 @@
-import java.util.Map;
 import java.util.Set;
 import java.util.TreeSet;
+import java.util.function.IntSupplier;
 
-/** Counts and prints the answers that are not as due. */
+/** Counts the checks, and prints those that do not hold. */
 final class Checks {
     private static int wrong = 0;
     private static int made = 0;
@@ -11,15 +11,11 @@ final class Checks {
     }
 
     static void due(String what, long got, long want) {
-        made++;
-        if (got != want) {
-            wrong++;
-            System.out.println(what + " answered " + got + ", due is " + want);
-        }
+        same(what, got, want);
     }
 
     static void due(String what, boolean got, boolean want) {
-        due(what, got ? 1 : 0, want ? 1 : 0);
+        same(what, got, want);
     }
 
     static void same(String what, Object got, Object want) {
@@ -30,15 +26,18 @@ final class Checks {
         }
     }
 
-    /** Every entry but the named ones is as before, and the named ones are not. */
-    static void changed(String what, Map<String, Integer> before, Map<String, Integer> after, String... names) {
-        Set<String> differing = new TreeSet<>();
-        for (Map.Entry<String, Integer> entry : before.entrySet()) {
-            if (!entry.getValue().equals(after.get(entry.getKey()))) {
-                differing.add(entry.getKey());
-            }
-        }
-        same("changed by " + what, differing, new TreeSet<>(Set.of(names)));
+    /** The call answers as due, and nothing that can be seen is another afterwards. */
+    static void keepsAll(Calls x, String what, IntSupplier call, int want) {
+        Snapshot before = Snapshot.of(x);
+        due(what, call.getAsInt(), want);
+        same("changed by " + what, before.differences(Snapshot.of(x)), Set.of());
+    }
+
+    /** The call answers as due, and of the state just the named getters answer otherwise afterwards. */
+    static void changes(Calls x, String what, IntSupplier call, int want, String... names) {
+        Snapshot before = Snapshot.of(x);
+        due(what, call.getAsInt(), want);
+        same("changed by " + what, before.stateDifferences(Snapshot.of(x)), new TreeSet<>(Set.of(names)));
     }
 
     static boolean anyWrong() {

@@ -1,11 +1,48 @@
-import java.util.Map;
+import java.util.Set;
+import java.util.function.ToIntFunction;
 
-/** Long mixed runs, the same every time, against the reference model. */
+/** Mixed runs against the reference model; they look random, yet are the same every time. */
 public final class RandomRunsTest {
-    // A plain generator with a fixed start: the runs are varied, yet always the same.
+    private static final int SHORT_RUNS = 600;
+    private static final int LONG_RUNS = 6;
+
     private static long seed;
 
-    private RandomRunsTest() {
+    private final int run;
+    private final int processes;
+    private final int slots;
+    // How often, of every 32 calls, a process crashes or space is reclaimed.
+    private final int crashes;
+    private final int reclaims;
+    private final Calls real;
+    private final Calls model;
+    private final StringBuilder path = new StringBuilder();
+
+    private RandomRunsTest(int run, int crashes, int reclaims) {
+        this.run = run;
+        this.crashes = crashes;
+        this.reclaims = reclaims;
+        int n = 1 + below(5);
+        int c = 2 + below(8);
+        int m = 3 + below(15);
+        real = new RealCalls(n, c, m);
+        model = new ReferenceModel(n, c, m);
+        processes = Math.max(2, Math.min(4, n));
+        slots = Math.max(4, Math.min(16, m));
+        path.append("new(" + n + ", " + c + ", " + m + ")");
+    }
+
+    public static void main(String[] args) {
+        for (int run = 0; run < SHORT_RUNS && !Checks.anyWrong(); run++) {
+            seed = run;
+            new RandomRunsTest(run, 1 + below(3), below(4)).go(150, 3);
+        }
+        // Long enough, and reclaiming often enough, to come to MAX_NUMBER.
+        for (int run = 0; run < LONG_RUNS && !Checks.anyWrong(); run++) {
+            seed = SHORT_RUNS + run;
+            new RandomRunsTest(SHORT_RUNS + run, 0, 8).go(3000, 20);
+        }
+        Checks.finish();
     }
 
     private static int below(int bound) {
@@ -13,85 +50,50 @@ public final class RandomRunsTest {
         return (int) ((seed >>> 33) % bound);
     }
 
-    public static void main(String[] args) {
-        for (int run = 0; run < 400 && !Checks.anyWrong(); run++) {
-            seed = run;
-            run(run);
-        }
-        Checks.finish();
+    /** Mostly one of 0 .. count-1, at times just beside. */
+    private static int pick(int count) {
+        return below(16) == 0 ? below(2) * (count + 1) - 1 : below(count);
     }
 
-    private static void run(int run) {
-        int n = 1 + below(5);
-        int c = 2 + below(8);
-        int m = 3 + below(15);
-        // Some runs crash and reclaim rarely, so that states grow; others do so often.
-        int crashes = 1 + below(4);
-        int reclaims = below(4);
-        Calls real = new RealCalls(n, c, m);
-        Calls model = new ReferenceModel(n, c, m);
-        String path = "new(" + n + ", " + c + ", " + m + ")";
-        for (int call = 0; call < 150 && !Checks.anyWrong(); call++) {
-            path += " " + change(real, model, run, path, crashes, reclaims);
-            if (call % 3 == 0) {
-                compare(run, path, Snapshot.all(real), Snapshot.all(model));
+    private void go(int calls, int between) {
+        for (int i = 0; i < calls && !Checks.anyWrong(); i++) {
+            change();
+            if (i % between == 0) {
+                Snapshot want = Snapshot.of(model);
+                Checks.same("run " + run + " after " + path + ", wrong getters",
+                        want.differences(Snapshot.of(real)), Set.of());
             }
         }
     }
 
-    private static void compare(int run, String path, Map<String, Integer> got, Map<String, Integer> want) {
-        if (got.equals(want)) {
-            Checks.due("run " + run, 0, 0);
-            return;
-        }
-        for (Map.Entry<String, Integer> entry : want.entrySet()) {
-            Checks.due("run " + run + " after " + path + ": " + entry.getKey(), got.get(entry.getKey()), entry.getValue());
+    private void change() {
+        int p = pick(processes);
+        int q = pick(processes);
+        int slot = pick(slots);
+        int kind = below(32);
+        if (kind < crashes) {
+            both("crash(" + p + ")", x -> x.crash(p));
+        } else if (kind < crashes + reclaims) {
+            both("reclaim()", Calls::reclaim);
+        } else if (kind < 18) {
+            both("deliver(" + slot + ")", x -> x.deliver(slot));
+        } else if (kind < 24) {
+            both("send(" + p + ", " + q + ")", x -> x.send(p, q));
+        } else if (kind < 29) {
+            both("checkpoint(" + p + ")", x -> x.checkpoint(p));
+        } else if (kind < 30) {
+            both("lose(" + slot + ")", x -> x.lose(slot));
+        } else if (kind < 31) {
+            int number = below(Integer.MAX_VALUE) * 2;
+            both("step(" + p + ", " + number + ")", x -> x.step(p, number));
+        } else {
+            both("recover()", Calls::recover);
         }
     }
 
-    private static String change(Calls real, Calls model, int run, String path, int crashes, int reclaims) {
-        int p = below(6) - 1;
-        int q = below(6) - 1;
-        int slot = below(18) - 1;
-        String call;
-        int got;
-        int want;
-        int kind = below(20 + crashes + reclaims);
-        if (kind < 1) {
-            int x = below(Integer.MAX_VALUE) * 2;
-            call = "step(" + p + ", " + x + ")";
-            got = real.step(p, x);
-            want = model.step(p, x);
-        } else if (kind < 7) {
-            call = "send(" + p + ", " + q + ")";
-            got = real.send(p, q);
-            want = model.send(p, q);
-        } else if (kind < 14) {
-            call = "deliver(" + slot + ")";
-            got = real.deliver(slot);
-            want = model.deliver(slot);
-        } else if (kind < 15) {
-            call = "lose(" + slot + ")";
-            got = real.lose(slot);
-            want = model.lose(slot);
-        } else if (kind < 19) {
-            call = "checkpoint(" + p + ")";
-            got = real.checkpoint(p);
-            want = model.checkpoint(p);
-        } else if (kind < 20) {
-            call = "recover()";
-            got = real.recover();
-            want = model.recover();
-        } else if (kind < 20 + crashes) {
-            call = "crash(" + p + ")";
-            got = real.crash(p);
-            want = model.crash(p);
-        } else {
-            call = "reclaim()";
-            got = real.reclaim();
-            want = model.reclaim();
-        }
-        Checks.due("run " + run + " after " + path + ": " + call, got, want);
-        return call;
+    private void both(String call, ToIntFunction<Calls> made) {
+        path.append(' ').append(call);
+        int want = made.applyAsInt(model);
+        Checks.due("run " + run + " after " + path, made.applyAsInt(real), want);
     }
 }
