@@ -11,9 +11,12 @@ public final class LinesTest {
         promise9SettledMessages();
         promise9TheNewestMayGo();
         promise9WhileDown();
+        promise9AllDown();
         promise9DecidesBeforeItChanges();
         promise10Masks();
         promise10Lines();
+        promise10LongDomino();
+        promise10LongDominoRoundFour();
         promise10WhileDown();
         promise10Refuses();
         promise11Needed();
@@ -105,6 +108,26 @@ public final class LinesTest {
         Checks.due("value(1)", x.value(1), 2);
     }
 
+    private static void promise9AllDown() {
+        Calls x = new RealCalls(2, 4, 8);
+        x.checkpoint(0);
+        x.send(0, 1);
+        x.deliver(0);
+        x.checkpoint(1);
+        x.send(0, 1);
+        x.deliver(1);
+        x.send(1, 0);
+        x.deliver(2);
+        x.crash(1);
+        x.crash(0);
+        Checks.due("reclaim()", x.reclaim(), 200);
+        Checks.due("checkpointNumber(0, 0)", x.checkpointNumber(0, 0), 1);
+        Checks.due("checkpointNumber(1, 0)", x.checkpointNumber(1, 0), 0);
+        Checks.due("needed(0, 1)", x.needed(0, 1), 1);
+        Checks.due("needed(1, 0)", x.needed(1, 0), 1);
+        Checks.due("recover()", x.recover(), 3);
+    }
+
     private static void promise9DecidesBeforeItChanges() {
         // The settled message and the old checkpoints go together in one call.
         Calls x = new RealCalls(3, 8, 8);
@@ -153,6 +176,43 @@ public final class LinesTest {
         Checks.due("probe(1, 0)", y.probe(1, 0), 1);
         Checks.due("probe(1, 1)", y.probe(1, 1), 1);
         Checks.due("probe(2, 0)", y.probe(2, 0), RecoveryLine.NOW);
+    }
+
+    private static void promise10LongDomino() {
+        Calls x = new RealCalls(2, 8, 16);
+        for (int number = 1; number < 8; number++) {
+            Checks.due("deliver(send(0, 1))", x.deliver(x.send(0, 1)), RecoveryLine.OK);
+            Checks.due("checkpoint(1)", x.checkpoint(1), number);
+            Checks.due("deliver(send(1, 0))", x.deliver(x.send(1, 0)), RecoveryLine.OK);
+            Checks.due("checkpoint(0)", x.checkpoint(0), number);
+        }
+        Checks.due("probe(1, 1) before the last message", x.probe(1, 1), RecoveryLine.NOW);
+        Checks.due("probe(1, 0) before the last message", x.probe(1, 0), 7);
+        Checks.due("probe(2, 1) before the last message", x.probe(2, 1), 0);
+        x.deliver(x.send(0, 1));
+        for (int mask = 1; mask < 4; mask++) {
+            Checks.due("probe(" + mask + ", 0)", x.probe(mask, 0), 0);
+            Checks.due("probe(" + mask + ", 1)", x.probe(mask, 1), 0);
+        }
+        Checks.due("reclaim()", x.reclaim(), 1400);
+    }
+
+    private static void promise10LongDominoRoundFour() {
+        Calls x = new RealCalls(4, 8, 16);
+        for (int i = 0; i < 16; i++) {
+            int receiver = (i + 1) % 4;
+            Checks.due("send on to " + receiver, x.send(i % 4, receiver), i);
+            Checks.due("deliver(" + i + ")", x.deliver(i), RecoveryLine.OK);
+            Checks.due("checkpoint(" + receiver + ")", x.checkpoint(receiver), 1 + i / 4);
+        }
+        // Process 0 sent in intervals 0 to 3 and has saved checkpoint 4 since.
+        Checks.due("probe(1, 0)", x.probe(1, 0), 4);
+        Checks.due("probe(1, 1)", x.probe(1, 1), RecoveryLine.NOW);
+        // Process 3 sent on in its interval 4: undoing that takes 0 back to checkpoint 3,
+        // 1 to 3, 2 to 2, 3 itself to 1, then 0 to 0, and so all of them to the start.
+        for (int p = 0; p < 4; p++) {
+            Checks.due("probe(8, " + p + ")", x.probe(8, p), 0);
+        }
     }
 
     private static void promise10WhileDown() {
