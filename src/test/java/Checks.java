@@ -92,7 +92,8 @@ final class Checks {
     }
 
     static void finish() {
-        System.out.println(sentences + " sentences, " + made + " checks, " + wrong + " wrong");
+        String tested = sentences == 0 ? "" : sentences + " sentences, ";
+        System.out.println(tested + made + " checks, " + wrong + " wrong");
         if (wrong != 0) {
             System.exit(1);
         }

@@ -38,12 +38,12 @@ public final class MessagesTest {
         Checks.sentence("slot is bad, or what < 0, or what > 5: BAD.", MessagesTest::lookAtBadArguments);
         Checks.sentence("what is 0: the slot's state, EMPTY, IN_TRANSIT or RECEIVED.", MessagesTest::lookAtTheState);
         Checks.sentence("what is 1 to 5 and the slot is EMPTY: NONE.", MessagesTest::lookAtAnEmptySlot);
-        Checks.sentence("1: the sender,", MessagesTest::lookAtTheEnds);
-        Checks.sentence("2: the receiver,", MessagesTest::lookAtTheEnds);
+        Checks.sentence("1: the sender,", MessagesTest::lookAtTheSender);
+        Checks.sentence("2: the receiver,", MessagesTest::lookAtTheReceiver);
         Checks.sentence("3: the payload (any int),", MessagesTest::lookAtThePayload);
-        Checks.sentence("4: the send interval,", MessagesTest::lookAtTheIntervals);
+        Checks.sentence("4: the send interval,", MessagesTest::lookAtTheSendInterval);
         Checks.sentence("5: the receive interval if the slot is RECEIVED, NONE if it is IN_TRANSIT.",
-                MessagesTest::lookAtTheIntervals);
+                MessagesTest::lookAtTheReceiveInterval);
         Checks.sentence("Nothing changes.", MessagesTest::lookingChangesNothing);
         Checks.section("Not promised");
         Checks.sentence("of messages in slots that have become EMPTY; none of it shows through the public face",
@@ -369,16 +369,26 @@ public final class MessagesTest {
         }
     }
 
-    private static void lookAtTheEnds() {
+    private static void lookAtTheSender() {
+        Calls x = new RealCalls(4, 3, 16);
         for (int p = 0; p < 4; p++) {
-            for (int q = 0; q < 4; q++) {
-                if (p != q) {
-                    Calls x = new RealCalls(4, 3, 4);
-                    x.send(p, q);
-                    Checks.slotIs(x, 0, RecoveryLine.IN_TRANSIT, p, q);
-                    x.deliver(0);
-                    Checks.slotIs(x, 0, RecoveryLine.RECEIVED, p, q);
-                }
+            for (int step = 1; step < 4; step++) {
+                int slot = x.send(p, (p + step) % 4);
+                Checks.due("message(" + slot + ", 1) in transit", x.message(slot, 1), p);
+                x.deliver(slot);
+                Checks.due("message(" + slot + ", 1) received", x.message(slot, 1), p);
+            }
+        }
+    }
+
+    private static void lookAtTheReceiver() {
+        Calls x = new RealCalls(4, 3, 16);
+        for (int q = 0; q < 4; q++) {
+            for (int step = 1; step < 4; step++) {
+                int slot = x.send((q + step) % 4, q);
+                Checks.due("message(" + slot + ", 2) in transit", x.message(slot, 2), q);
+                x.deliver(slot);
+                Checks.due("message(" + slot + ", 2) received", x.message(slot, 2), q);
             }
         }
     }
@@ -395,20 +405,31 @@ public final class MessagesTest {
         }
     }
 
-    private static void lookAtTheIntervals() {
+    private static void lookAtTheSendInterval() {
         for (int sent : new int[] {0, 1, 98, 99}) {
-            for (int received : new int[] {0, 1, 98, 99}) {
-                Calls x = new RealCalls(2, 3, 4);
-                Edges.raise(x, 0, sent);
-                Edges.raise(x, 1, received);
-                x.send(0, 1);
-                Checks.slotIs(x, 0, RecoveryLine.IN_TRANSIT, 0, 1, 1, sent, RecoveryLine.NONE);
-                x.deliver(0);
-                Checks.slotIs(x, 0, RecoveryLine.RECEIVED, 0, 1, 1, sent, received);
-                x.checkpoint(0);
-                x.checkpoint(1);
-                Checks.slotIs(x, 0, RecoveryLine.RECEIVED, 0, 1, 1, sent, received);
-            }
+            Calls x = new RealCalls(2, 3, 4);
+            Edges.raise(x, 0, sent);
+            Edges.raise(x, 1, 50);
+            x.send(0, 1);
+            Checks.due("message(0, 4) in transit", x.message(0, 4), sent);
+            x.checkpoint(0);
+            x.deliver(0);
+            x.checkpoint(1);
+            Checks.due("message(0, 4) received", x.message(0, 4), sent);
+        }
+    }
+
+    private static void lookAtTheReceiveInterval() {
+        for (int received : new int[] {0, 1, 98, 99}) {
+            Calls x = new RealCalls(2, 3, 4);
+            Edges.raise(x, 0, 50);
+            Edges.raise(x, 1, received);
+            x.send(0, 1);
+            Checks.due("message(0, 5) in transit", x.message(0, 5), RecoveryLine.NONE);
+            x.deliver(0);
+            Checks.due("message(0, 5) received", x.message(0, 5), received);
+            x.checkpoint(1);
+            Checks.due("message(0, 5) stays", x.message(0, 5), received);
         }
     }
 

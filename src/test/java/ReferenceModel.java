@@ -28,7 +28,7 @@ final class ReferenceModel implements Calls {
     private final int m;
     private final List<Process> processes = new ArrayList<>();
     private final Message[] slots;
-    // lines.get(T), or null: worked out again only after a change.
+    // lines[T], or null: worked out again only after a change.
     private int[][] lines;
 
     ReferenceModel(int processes, int checkpoints, int messages) {

@@ -105,22 +105,22 @@ public final class StateTest {
     private static void numbersAreDistinct() {
         for (State state : State.all()) {
             Calls x = state.real();
-            numbersRise(x, state.name());
+            numbersRise(x, state, state.name());
             x.recover();
-            numbersRise(x, state.name() + ", recovered");
+            numbersRise(x, state, state.name() + ", recovered");
             for (int p = 0; p < state.processes(); p++) {
                 x.checkpoint(p);
             }
-            numbersRise(x, state.name() + ", saved after that");
+            numbersRise(x, state, state.name() + ", saved after that");
             x.reclaim();
-            numbersRise(x, state.name() + ", reclaimed after that");
+            numbersRise(x, state, state.name() + ", reclaimed after that");
         }
     }
 
-    private static void numbersRise(Calls x, String when) {
-        for (int p = 0; x.interval(p) != RecoveryLine.BAD; p++) {
+    private static void numbersRise(Calls x, State state, String when) {
+        for (int p = 0; p < state.processes(); p++) {
             int last = -1;
-            for (int k = 0; x.checkpointNumber(p, k) != RecoveryLine.NONE && k < 9; k++) {
+            for (int k = 0; k < 9 && x.checkpointNumber(p, k) != RecoveryLine.NONE; k++) {
                 Checks.due(when + ": number " + k + " of " + p + " is above " + last,
                         x.checkpointNumber(p, k) > last, true);
                 last = x.checkpointNumber(p, k);
