@@ -200,7 +200,8 @@ public final class LinesTest {
         Calls x = new RealCalls(3, 4, 8);
         for (int number : Edges.ints()) {
             for (int p = 0; p < 3; p++) {
-                Checks.due("needed(" + p + ", " + number + ")", x.needed(p, number), number == 0 ? 1 : RecoveryLine.NONE);
+                Checks.due("needed(" + p + ", " + number + ")", x.needed(p, number),
+                        number == 0 ? 1 : RecoveryLine.NONE);
             }
         }
         // Numbers that were stored once: reclaimed, or taken away by recovery.

@@ -14,14 +14,16 @@ public final class ProcessesTest {
         Checks.section("Promise 7");
         Checks.sentence("p is bad: BAD.", ProcessesTest::crashOfABadProcess);
         Checks.sentence("p is down: DOWN.", ProcessesTest::crashWhileDown);
-        Checks.sentence("Otherwise p becomes down and its value is lost; answers OK.", ProcessesTest::crashLosesTheValue);
+        Checks.sentence("Otherwise p becomes down and its value is lost; answers OK.",
+                ProcessesTest::crashLosesTheValue);
         Checks.sentence("The interval number of p, its checkpoints and all messages stay as they are.",
                 ProcessesTest::crashKeepsTheRest);
         Checks.sentence("The other processes are unaffected and may go on.", ProcessesTest::othersGoOn);
         Checks.sentence("All processes may be down at once.", ProcessesTest::allMayBeDown);
         Checks.section("Promise 12");
         Checks.sentence("is a getter: the value of p; 0 if p is bad or p is down", ProcessesTest::valueOfNobody);
-        Checks.sentence("The value of a process that is up may be any int, 0 included.", ProcessesTest::valueMayBeAnyInt);
+        Checks.sentence("The value of a process that is up may be any int, 0 included.",
+                ProcessesTest::valueMayBeAnyInt);
         Checks.sentence("Nothing changes.", ProcessesTest::valueChangesNothing);
         Checks.section("Promise 13");
         Checks.sentence("the interval number of p, also while p is down", ProcessesTest::intervalWhileDown);
