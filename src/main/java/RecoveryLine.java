@@ -322,7 +322,7 @@ public final class RecoveryLine {
         return NONE;
     }
 
-    /** The greatest stored number of p that is not above the bound. */
+    // Every state has a consistent choice, so a search for a line always finds one.
     private int newestAtMost(int p, int bound) {
         int first = firstCell(p);
         int newest = NONE;
@@ -334,7 +334,7 @@ public final class RecoveryLine {
         return newest;
     }
 
-    /** The processes that are down, as a sum of 1 << p. */
+    // A sum of 1 << p, so that it can be joined with the mask of probe.
     private int downSet() {
         int down = 0;
         for (int p = 0; p < processCount; p++) {
@@ -345,11 +345,8 @@ public final class RecoveryLine {
         return down;
     }
 
-    /**
-     * Puts line(T) into the field line, T being a set that holds every process that
-     * is down. Lowering only what a message forces down, from the greatest choice
-     * on, never goes below the greatest consistent choice.
-     */
+    // From the greatest choice for T on, only what a message forces down is lowered,
+    // which never goes below the greatest consistent choice: that is line(T).
     private void findLine(int crashed) {
         startLine(crashed);
         boolean lowered = true;
@@ -410,6 +407,7 @@ public final class RecoveryLine {
 
     private void rollBackProcess(int p) {
         int cell = cellOf(p, line[p]);
+        // A line holds stored checkpoints alone, yet no index is used unseen.
         if (cell == NONE) {
             return;
         }
@@ -418,7 +416,7 @@ public final class RecoveryLine {
         values[p] = savedValues[cell];
     }
 
-    /** Marks all that is NEEDED and SETTLED, over every set T with the down processes in it. */
+    // NEEDED asks for one T and SETTLED for all, but over the same sets: one pass serves both.
     private void markNeededAndSettled() {
         clearMarks();
         int down = downSet();

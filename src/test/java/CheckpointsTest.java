@@ -5,6 +5,7 @@ public final class CheckpointsTest {
 
     public static void main(String[] args) {
         Checks.section("Promise 6");
+        Checks.sentence("checkpoint(p): p saves its state.", CheckpointsTest::saveAndComeBack);
         Checks.sentence("p is bad: BAD.", CheckpointsTest::saveOfABadProcess);
         Checks.sentence("p is down: DOWN.", CheckpointsTest::saveWhileDown);
         Checks.sentence("The interval number of p is MAX_NUMBER: LIMIT.", CheckpointsTest::saveAtTheLimit);
@@ -24,6 +25,7 @@ public final class CheckpointsTest {
         Checks.sentence("It answers in the same way whether p is up or down.", CheckpointsTest::numbersWhileDown);
         Checks.sentence("Nothing changes.", CheckpointsTest::numbersChangeNothing);
         Checks.section("Promise 16");
+        Checks.sentence("the saved value of the checkpoint of p with that number", CheckpointsTest::savedValueByNumber);
         Checks.sentence("0 if p is bad or no such checkpoint is stored, for any int number",
                 CheckpointsTest::savedValueOfNothing);
         Checks.sentence("A saved value may be any int, 0 included.", CheckpointsTest::savedValueMayBeAnyInt);
@@ -32,6 +34,20 @@ public final class CheckpointsTest {
         Checks.section("Not promised");
         Checks.sentence("of removed checkpoints", CheckpointsTest::nothingShowsOfRemovedCheckpoints);
         Checks.finish();
+    }
+
+    private static void saveAndComeBack() {
+        for (int p = 0; p < 4; p++) {
+            Calls x = new RealCalls(4, 3, 4);
+            x.step(p, 1000);
+            int value = x.value(p);
+            x.checkpoint(p);
+            x.step(p, 1);
+            x.crash(p);
+            x.recover();
+            Checks.due("value(" + p + ")", x.value(p), value);
+            Checks.due("interval(" + p + ")", x.interval(p), 1);
+        }
     }
 
     private static void saveOfABadProcess() {
@@ -226,6 +242,19 @@ public final class CheckpointsTest {
         Checks.keepsAll(x, "checkpointNumber(1, 2)", () -> x.checkpointNumber(1, 2), RecoveryLine.NONE);
         Checks.keepsAll(x, "checkpointNumber(1, -1)", () -> x.checkpointNumber(1, -1), RecoveryLine.NONE);
         Checks.keepsAll(x, "checkpointNumber(3, 0)", () -> x.checkpointNumber(3, 0), RecoveryLine.BAD);
+    }
+
+    private static void savedValueByNumber() {
+        Calls x = withGaps();
+        x.step(1, 4);
+        x.checkpoint(1);
+        // By number, not by rank: checkpoint 3 of process 1 is its second, checkpoint 4 its third.
+        Checks.stored(x, 1, 0, 3, 4);
+        Checks.due("savedValue(1, 0)", x.savedValue(1, 0), 2);
+        Checks.due("savedValue(1, 3)", x.savedValue(1, 3), 63);
+        Checks.due("savedValue(1, 4)", x.savedValue(1, 4), 1957);
+        Checks.due("savedValue(0, 2)", x.savedValue(0, 2), 1);
+        Checks.due("savedValue(2, 0)", x.savedValue(2, 0), 3);
     }
 
     private static void savedValueOfNothing() {

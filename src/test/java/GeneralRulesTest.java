@@ -5,13 +5,6 @@ import java.util.function.ToIntFunction;
 
 /** The general rules of the document, which hold for every call. */
 public final class GeneralRulesTest {
-    /** A call under its name, to be made on any object. */
-    private record Call(String name, ToIntFunction<Calls> made) {
-        int on(Calls x) {
-            return made.applyAsInt(x);
-        }
-    }
-
     private GeneralRulesTest() {
     }
 

@@ -8,8 +8,8 @@ public final class LinesTest {
     public static void main(String[] args) {
         Checks.section("Promise 10");
         Checks.sentence("p is bad: BAD.", LinesTest::probeOfABadProcess);
-        Checks.sentence("let T be D together with every process q for which bit q of mask is set",
-                LinesTest::maskAndDown);
+        Checks.sentence("Otherwise let T be D together with every process q for which bit q of mask is set, that is "
+                + "(mask & (1 << q)) != 0 for q in 0 .. n-1.", LinesTest::maskAndDown);
         Checks.sentence("The other bits of mask are ignored, so every int, negative ones included, is allowed.",
                 LinesTest::otherBitsAreIgnored);
         Checks.sentence("Answers the component of p in line(T): NOW if it is \"now\", else the checkpoint number.",

@@ -5,6 +5,7 @@ public final class MessagesTest {
 
     public static void main(String[] args) {
         Checks.section("Promise 3");
+        Checks.sentence("send(p, q): p sends its value to q.", MessagesTest::sendCarriesTheValue);
         Checks.sentence("p is bad, or q is bad, or p == q: BAD.", MessagesTest::sendBetweenBadProcesses);
         Checks.sentence("p is down: DOWN.", MessagesTest::sendWhileDown);
         Checks.sentence("(q may be down.)", MessagesTest::sendToAProcessThatIsDown);
@@ -16,6 +17,8 @@ public final class MessagesTest {
         Checks.sentence("Nothing else changes; in particular the values and interval numbers of p and q stay.",
                 MessagesTest::sendChangesNothingElse);
         Checks.section("Promise 4");
+        Checks.sentence("deliver(slot): the message in the slot reaches its receiver r.",
+                MessagesTest::deliverReachesTheReceiver);
         Checks.sentence("slot is bad: BAD.", MessagesTest::deliverOfABadSlot);
         Checks.sentence("The slot is not IN_TRANSIT (it is EMPTY or RECEIVED): NONE.",
                 MessagesTest::deliverOfWhatIsNotInTransit);
@@ -28,6 +31,7 @@ public final class MessagesTest {
                 MessagesTest::deliverKeepsTheMessage);
         Checks.sentence("Nothing else changes.", MessagesTest::deliverChangesNothingElse);
         Checks.section("Promise 5");
+        Checks.sentence("lose(slot): the network loses a message.", MessagesTest::loseForGood);
         Checks.sentence("slot is bad: BAD.", MessagesTest::loseOfABadSlot);
         Checks.sentence("The slot is not IN_TRANSIT (it is EMPTY or RECEIVED): NONE.",
                 MessagesTest::loseOfWhatIsNotInTransit);
@@ -49,6 +53,21 @@ public final class MessagesTest {
         Checks.sentence("of messages in slots that have become EMPTY; none of it shows through the public face",
                 MessagesTest::nothingShowsOfOldMessages);
         Checks.finish();
+    }
+
+    private static void sendCarriesTheValue() {
+        for (int p = 0; p < 4; p++) {
+            for (int step = 1; step < 4; step++) {
+                int q = (p + step) % 4;
+                Calls x = new RealCalls(4, 3, 4);
+                Edges.setValue(x, p, 500);
+                x.send(p, q);
+                // The value that p had when it sent, whatever becomes of it.
+                x.step(p, 1);
+                x.deliver(0);
+                Checks.due("value(" + q + ") by a message of " + p, x.value(q), 31 * (q + 1) + 500);
+            }
+        }
     }
 
     private static void sendBetweenBadProcesses() {
@@ -161,6 +180,25 @@ public final class MessagesTest {
         Checks.slotIs(x, 1, RecoveryLine.IN_TRANSIT, 2, 0, 193, 1, RecoveryLine.NONE);
     }
 
+    private static void deliverReachesTheReceiver() {
+        Calls x = new RealCalls(4, 3, 16);
+        for (int p = 0; p < 4; p++) {
+            for (int step = 1; step < 4; step++) {
+                x.send(p, (p + step) % 4);
+            }
+        }
+        // Backwards: messages may overtake each other.
+        for (int slot = 11; slot >= 0; slot--) {
+            int reached = x.message(slot, 2);
+            int[] values = {x.value(0), x.value(1), x.value(2), x.value(3)};
+            values[reached] = 31 * values[reached] + x.message(slot, 3);
+            x.deliver(slot);
+            for (int p = 0; p < 4; p++) {
+                Checks.due("value(" + p + ") by slot " + slot, x.value(p), values[p]);
+            }
+        }
+    }
+
     private static void deliverOfABadSlot() {
         for (int m = 4; m <= 16; m++) {
             Calls x = new RealCalls(2, 3, m);
@@ -259,6 +297,19 @@ public final class MessagesTest {
         Checks.changes(x, "deliver(0)", () -> x.deliver(0), RecoveryLine.OK,
                 "value(2)", "message(0, 0)", "message(0, 5)");
         Checks.due("value(2)", x.value(2), 94);
+    }
+
+    private static void loseForGood() {
+        Calls x = new RealCalls(2, 3, 4);
+        Edges.pass(x, 0, 1);
+        x.crash(1);
+        Checks.due("recover() brings it in transit again", x.recover(), 2);
+        x.lose(0);
+        x.crash(1);
+        Checks.due("recover() does not bring back what was lost", x.recover(), 2);
+        Checks.slotIsEmpty(x, 0);
+        Checks.due("deliver(0)", x.deliver(0), RecoveryLine.NONE);
+        Checks.due("value(1)", x.value(1), 2);
     }
 
     private static void loseOfABadSlot() {

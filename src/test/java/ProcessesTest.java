@@ -1,3 +1,6 @@
+import java.util.List;
+import java.util.Set;
+
 /** Promises 2, 7, 12, 13 and 14: local work, crashing, and looking at a process. */
 public final class ProcessesTest {
     private ProcessesTest() {
@@ -32,6 +35,9 @@ public final class ProcessesTest {
         Checks.section("Promise 14");
         Checks.sentence("true if p is not bad and p is up; false otherwise", ProcessesTest::upOrNot);
         Checks.sentence("Nothing changes.", ProcessesTest::isUpChangesNothing);
+        Checks.section("Not promised");
+        Checks.sentence("whatever is left inside of the lost value of a process that is down",
+                ProcessesTest::nothingShowsOfTheLostValue);
         Checks.finish();
     }
 
@@ -248,6 +254,27 @@ public final class ProcessesTest {
                 Checks.due("isUp(" + p + ") after recovery", x.isUp(p), true);
             }
         }
+    }
+
+    /** Two objects that differ in the lost value alone can't be told apart, then or later. */
+    private static void nothingShowsOfTheLostValue() {
+        Calls x = new RealCalls(3, 3, 4);
+        Calls y = new RealCalls(3, 3, 4);
+        x.step(1, 1);
+        y.step(1, 2);
+        Checks.due("value(1) is another", x.value(1) == y.value(1), false);
+        for (Calls one : List.of(x, y)) {
+            one.crash(1);
+            one.send(0, 1);
+            one.reclaim();
+        }
+        Checks.same("differing while down", Snapshot.of(x).differences(Snapshot.of(y)), Set.of());
+        for (Calls one : List.of(x, y)) {
+            one.recover();
+            one.deliver(0);
+            one.checkpoint(1);
+        }
+        Checks.same("differing after recovery", Snapshot.of(x).differences(Snapshot.of(y)), Set.of());
     }
 
     private static void isUpChangesNothing() {

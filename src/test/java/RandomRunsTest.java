@@ -33,6 +33,13 @@ public final class RandomRunsTest {
     }
 
     public static void main(String[] args) {
+        Checks.section("Not promised");
+        Checks.sentence("How lines, NEEDED checkpoints and SETTLED messages are found is free, as long as the answers "
+                + "and changes are those promised.", RandomRunsTest::allRuns);
+        Checks.finish();
+    }
+
+    private static void allRuns() {
         for (int run = 0; run < SHORT_RUNS && !Checks.anyWrong(); run++) {
             seed = run;
             new RandomRunsTest(run, 1 + below(3), below(4)).go(150, 3);
@@ -42,7 +49,6 @@ public final class RandomRunsTest {
             seed = SHORT_RUNS + run;
             new RandomRunsTest(SHORT_RUNS + run, 0, 8).go(3000, 20);
         }
-        Checks.finish();
     }
 
     private static int below(int bound) {

@@ -8,9 +8,6 @@ public final class ReclaimTest {
     }
 
     public static void main(String[] args) {
-        Checks.section("What it is");
-        Checks.sentence("Checkpoints and message records that no later line can need may be reclaimed at any time.",
-                ReclaimTest::linesStay);
         Checks.section("Promise 9");
         Checks.sentence("works in every state, also while processes are down", ReclaimTest::worksInEveryState);
         Checks.sentence("What is NEEDED and what is SETTLED is decided for all checkpoints and messages from the "
@@ -26,30 +23,6 @@ public final class ReclaimTest {
         Checks.sentence("the remaining checkpoints keep their numbers and saved values, and the remaining messages "
                 + "stay in their slots unchanged", ReclaimTest::whatRemainsIsUnchanged);
         Checks.finish();
-    }
-
-    private static void linesStay() {
-        for (State state : State.all()) {
-            Calls x = state.real();
-            int[][] lines = lines(x, state.processes());
-            x.reclaim();
-            int[][] after = lines(x, state.processes());
-            for (int mask = 0; mask < lines.length; mask++) {
-                for (int p = 0; p < state.processes(); p++) {
-                    Checks.due(state.name() + ": probe(" + mask + ", " + p + ")", after[mask][p], lines[mask][p]);
-                }
-            }
-        }
-    }
-
-    private static int[][] lines(Calls x, int processes) {
-        int[][] lines = new int[1 << processes][processes];
-        for (int mask = 0; mask < lines.length; mask++) {
-            for (int p = 0; p < processes; p++) {
-                lines[mask][p] = x.probe(mask, p);
-            }
-        }
-        return lines;
     }
 
     private static void worksInEveryState() {

@@ -17,8 +17,9 @@ public final class RecoverTest {
                 + "receiver, payload and send interval stay, the receive interval is forgotten",
                 RecoverTest::anUndoneReceiptIsInTransitAgain);
         Checks.sentence("else it stays as it is.", RecoverTest::otherMessagesStay);
-        Checks.sentence("all checkpoints of p with numbers greater than i are removed, checkpoint i and older ones "
-                + "stay", RecoverTest::laterCheckpointsGo);
+        Checks.sentence("For every process p whose component is a checkpoint (not \"now\"), with number i: all "
+                + "checkpoints of p with numbers greater than i are removed, checkpoint i and older ones stay",
+                RecoverTest::laterCheckpointsGo);
         Checks.sentence("the interval number of p becomes i, and its value becomes the saved value of i",
                 RecoverTest::intervalAndValueFallBack);
         Checks.sentence("This holds for processes that were up as well as for those that were down.",

@@ -2,10 +2,7 @@ import java.util.ArrayList;
 import java.util.List;
 import java.util.TreeMap;
 
-/**
- * The document's words written down as they stand: a line is found by going through
- * every choice, so that it shares no way of thinking with the class under test.
- */
+/** The document's promises written down as they stand, with lines as Choices finds them. */
 final class ReferenceModel implements Calls {
     private static final class Process {
         int value;
@@ -28,8 +25,8 @@ final class ReferenceModel implements Calls {
     private final int m;
     private final List<Process> processes = new ArrayList<>();
     private final Message[] slots;
-    // lines[T], or null: worked out again only after a change.
-    private int[][] lines;
+    // Or null: read off anew only after a change.
+    private Choices choices;
 
     ReferenceModel(int processes, int checkpoints, int messages) {
         n = Math.max(2, Math.min(4, processes));
@@ -42,7 +39,6 @@ final class ReferenceModel implements Calls {
             this.processes.add(process);
         }
         slots = new Message[m];
-        lines = new int[1 << n][];
     }
 
     private boolean badProcess(int p) {
@@ -54,98 +50,14 @@ final class ReferenceModel implements Calls {
     }
 
     private void changed() {
-        lines = new int[1 << n][];
+        choices = null;
     }
 
-    private int down() {
-        int down = 0;
-        for (int p = 0; p < n; p++) {
-            down += processes.get(p).up ? 0 : 1 << p;
+    private Choices choices() {
+        if (choices == null) {
+            choices = Choices.of(this);
         }
-        return down;
-    }
-
-    /** line(T), "now" being the interval number + 1. */
-    private int[] line(int set) {
-        if (lines[set] == null) {
-            lines[set] = searchLine(set);
-        }
-        return lines[set];
-    }
-
-    private int[] searchLine(int set) {
-        List<List<Integer>> components = new ArrayList<>();
-        for (int p = 0; p < n; p++) {
-            List<Integer> own = new ArrayList<>(processes.get(p).checkpoints.keySet());
-            if ((set >> p & 1) == 0) {
-                own.add(processes.get(p).interval + 1);
-            }
-            components.add(own);
-        }
-        int[] greatest = null;
-        int[] index = new int[n];
-        int[] choice = new int[n];
-        boolean more = true;
-        while (more) {
-            for (int p = 0; p < n; p++) {
-                choice[p] = components.get(p).get(index[p]);
-            }
-            if (consistent(choice)) {
-                greatest = greatest == null ? choice.clone() : maximum(greatest, choice);
-            }
-            more = false;
-            for (int p = 0; p < n && !more; p++) {
-                index[p]++;
-                more = index[p] < components.get(p).size();
-                index[p] = more ? index[p] : 0;
-            }
-        }
-        if (greatest == null || !consistent(greatest)) {
-            throw new IllegalStateException("there is no greatest consistent choice");
-        }
-        return greatest;
-    }
-
-    private static int[] maximum(int[] a, int[] b) {
-        int[] max = new int[a.length];
-        for (int p = 0; p < a.length; p++) {
-            max[p] = Math.max(a[p], b[p]);
-        }
-        return max;
-    }
-
-    private boolean consistent(int[] x) {
-        for (Message message : slots) {
-            if (message != null && message.received
-                    && message.receiveInterval < x[message.receiver]
-                    && message.sendInterval >= x[message.sender]) {
-                return false;
-            }
-        }
-        return true;
-    }
-
-    private boolean isNeeded(int p, int number) {
-        int down = down();
-        for (int set = 0; set < 1 << n; set++) {
-            if ((set & down) == down && line(set)[p] == number) {
-                return true;
-            }
-        }
-        return false;
-    }
-
-    private boolean isSettled(Message message) {
-        int down = down();
-        if (message == null || !message.received) {
-            return false;
-        }
-        for (int set = 0; set < 1 << n; set++) {
-            if ((set & down) == down && message.receiveInterval >= line(set)[message.receiver]) {
-                return false;
-            }
-        }
-        return true;
+        return choices;
     }
 
     @Override public int step(int p, int x) {
@@ -245,10 +157,11 @@ final class ReferenceModel implements Calls {
     }
 
     @Override public int recover() {
-        if (down() == 0) {
+        int down = choices().down();
+        if (down == 0) {
             return 0;
         }
-        int[] x = line(down());
+        int[] x = choices().line(down);
         for (int slot = 0; slot < m; slot++) {
             Message message = slots[slot];
             if (message == null) {
@@ -263,7 +176,7 @@ final class ReferenceModel implements Calls {
         int answer = 0;
         for (int p = 0; p < n; p++) {
             Process process = processes.get(p);
-            if (x[p] != process.interval + 1) {
+            if (x[p] != choices().now(p)) {
                 process.checkpoints.tailMap(x[p], false).clear();
                 process.interval = x[p];
                 process.value = process.checkpoints.get(x[p]);
@@ -280,7 +193,7 @@ final class ReferenceModel implements Calls {
         for (int p = 0; p < n; p++) {
             List<Integer> own = new ArrayList<>();
             for (int number : processes.get(p).checkpoints.keySet()) {
-                if (!isNeeded(p, number)) {
+                if (!choices().isNeeded(p, number)) {
                     own.add(number);
                 }
             }
@@ -288,7 +201,7 @@ final class ReferenceModel implements Calls {
         }
         List<Integer> empty = new ArrayList<>();
         for (int slot = 0; slot < m; slot++) {
-            if (isSettled(slots[slot])) {
+            if (choices().isSettled(slot)) {
                 empty.add(slot);
             }
         }
@@ -308,14 +221,14 @@ final class ReferenceModel implements Calls {
         if (badProcess(p)) {
             return -1;
         }
-        int set = down();
+        int set = choices().down();
         for (int q = 0; q < n; q++) {
             if ((mask & (1 << q)) != 0) {
                 set |= 1 << q;
             }
         }
-        int component = line(set)[p];
-        return component == processes.get(p).interval + 1 ? 1000 : component;
+        int component = choices().line(set)[p];
+        return component == choices().now(p) ? 1000 : component;
     }
 
     @Override public int needed(int p, int number) {
@@ -325,7 +238,7 @@ final class ReferenceModel implements Calls {
         if (!processes.get(p).checkpoints.containsKey(number)) {
             return -4;
         }
-        return isNeeded(p, number) ? 1 : 0;
+        return choices().isNeeded(p, number) ? 1 : 0;
     }
 
     @Override public int value(int p) {

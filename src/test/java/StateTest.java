@@ -1,3 +1,5 @@
+import java.util.List;
+
 /** The section "State, lines and general rules", but for the general rules. */
 public final class StateTest {
     private static final int NOW = RecoveryLine.NOW;
@@ -8,17 +10,24 @@ public final class StateTest {
     public static void main(String[] args) {
         Checks.section("State");
         Checks.sentence("There are n processes, numbered 0 .. n-1.", StateTest::processesFromZero);
-        Checks.sentence("There are m message slots, numbered 0 .. m-1.", StateTest::slotsFromZero);
         Checks.sentence("a value (int; all arithmetic on values wraps as in Java)", StateTest::valuesWrap);
         Checks.sentence("an interval number (0 .. MAX_NUMBER)", StateTest::intervalNumbers);
+        Checks.sentence("a flag: up or down", StateTest::upOrDown);
+        Checks.sentence("a set of stored checkpoints, each with a number and a saved value.",
+                StateTest::numberAndSavedValue);
         Checks.sentence("The numbers stored for one process are distinct and never greater than its interval number.",
                 StateTest::numbersAreDistinct);
         Checks.sentence("At most c checkpoints are stored per process.", StateTest::atMostC);
-        Checks.sentence("A slot is EMPTY, or holds one message", StateTest::oneMessageASlot);
+        Checks.sentence("There are m message slots, numbered 0 .. m-1.", StateTest::slotsFromZero);
+        Checks.sentence("A slot is EMPTY, or holds one message: its state (IN_TRANSIT or RECEIVED), sender, receiver, "
+                + "payload (int)", StateTest::oneMessageASlot);
         Checks.sentence("send interval (the sender's interval number when it was sent)", StateTest::sendInterval);
         Checks.sentence("if RECEIVED, receive interval (the receiver's interval number when it was delivered)",
                 StateTest::receiveInterval);
         Checks.section("Choices");
+        Checks.sentence("D is the set of processes that are down now.", StateTest::thoseDownNow);
+        Checks.sentence("For any set T of processes with D a subset of T, a CHOICE for T gives each process p one "
+                + "component x[p], which is one of these:", StateTest::oneComponentEach);
         Checks.sentence("the number of a checkpoint of p stored now", StateTest::onlyWhatIsStored);
         Checks.sentence("only if p is not in T: \"now\", which counts as (interval number of p) + 1",
                 StateTest::nowCountsOneMore);
@@ -38,9 +47,12 @@ public final class StateTest {
         Checks.section("Lines");
         Checks.sentence("line(T) is the consistent choice for T that is greatest in every component at once.",
                 StateTest::greatestOverGaps);
-        Checks.sentence("in every state that calls can lead to there is a consistent choice",
-                StateTest::everyStateHasItsLines);
+        Checks.sentence("It always exists and is unique: in every state that calls can lead to there is a consistent "
+                + "choice, and the componentwise maximum of two consistent choices for T is a consistent choice for "
+                + "T.", StateTest::everyStateHasItsLines);
         Checks.section("NEEDED");
+        Checks.sentence("A stored checkpoint number i of p is NEEDED if there is a set T, with D a subset of T and T a "
+                + "subset of all processes", StateTest::neededForSomeT);
         Checks.sentence("T = D and T = all processes are among them", StateTest::theOuterSetsCount);
         Checks.sentence("the component of p in line(T) is that checkpoint (not \"now\")", StateTest::nowNeedsNothing);
         Checks.section("SETTLED");
@@ -100,6 +112,34 @@ public final class StateTest {
         x.checkpoint(1);
         Checks.due("interval(1) after one more", x.interval(1), 99);
         Checks.due("interval(0)", x.interval(0), 0);
+    }
+
+    private static void upOrDown() {
+        Calls x = new RealCalls(4, 3, 4);
+        for (int p = 0; p < 4; p++) {
+            x.crash(p);
+            for (int q = 0; q < 4; q++) {
+                Checks.due("isUp(" + q + ") with " + p + " down", x.isUp(q), q != p);
+            }
+            x.recover();
+        }
+    }
+
+    private static void numberAndSavedValue() {
+        Calls x = new RealCalls(4, 8, 4);
+        for (int number = 1; number < 8; number++) {
+            for (int p = 0; p < 4; p++) {
+                Edges.setValue(x, p, 100 * p - number);
+                x.checkpoint(p);
+            }
+        }
+        for (int p = 0; p < 4; p++) {
+            Checks.stored(x, p, 0, 1, 2, 3, 4, 5, 6, 7);
+            Checks.due("savedValue(" + p + ", 0)", x.savedValue(p, 0), p + 1);
+            for (int number = 1; number < 8; number++) {
+                Checks.due("savedValue(" + p + ", " + number + ")", x.savedValue(p, number), 100 * p - number);
+            }
+        }
     }
 
     private static void numbersAreDistinct() {
@@ -181,6 +221,34 @@ public final class StateTest {
         }
         for (int slot = 0; slot < 4; slot++) {
             Checks.due("message(" + slot + ", 5)", x.message(slot, 5), slot);
+        }
+    }
+
+    private static void thoseDownNow() {
+        Calls x = new RealCalls(3, 3, 4);
+        x.crash(0);
+        Checks.lineIs(x, 0, 0, NOW, NOW);
+        x.crash(2);
+        Checks.lineIs(x, 0, 0, NOW, 0);
+        x.recover();
+        // Those that were down once are not down now.
+        Checks.lineIs(x, 0, NOW, NOW, NOW);
+        x.crash(1);
+        Checks.lineIs(x, 0, NOW, 0, NOW);
+        Checks.due("recover()", x.recover(), 2);
+    }
+
+    private static void oneComponentEach() {
+        for (State state : State.all()) {
+            for (int mask = 0; mask < 1 << state.processes(); mask++) {
+                Calls x = state.real();
+                for (int p = 0; p < state.processes(); p++) {
+                    int component = x.probe(mask, p);
+                    boolean stored = x.needed(p, component) != RecoveryLine.NONE;
+                    Checks.due(state.name() + ": probe(" + mask + ", " + p + ") is a component, " + component,
+                            stored || component == NOW, true);
+                }
+            }
         }
     }
 
@@ -362,21 +430,47 @@ public final class StateTest {
     private static void everyStateHasItsLines() {
         for (State state : State.all()) {
             Calls x = state.real();
-            componentsAreThere(x, state);
+            hasItsLines(x, state.name());
             x.reclaim();
-            componentsAreThere(x, state);
+            hasItsLines(x, state.name() + ", reclaimed");
             x.recover();
-            componentsAreThere(x, state);
+            hasItsLines(x, state.name() + ", recovered");
         }
     }
 
-    private static void componentsAreThere(Calls x, State state) {
-        for (int mask = 0; mask < 16; mask++) {
-            for (int p = 0; p < state.processes(); p++) {
-                int component = x.probe(mask, p);
-                boolean crashed = (mask >> p & 1) != 0 || !x.isUp(p);
-                boolean there = component == NOW ? !crashed : x.needed(p, component) == 1;
-                Checks.due(state.name() + ": probe(" + mask + ", " + p + ") is there, " + component, there, true);
+    private static void hasItsLines(Calls x, String when) {
+        Choices choices = Choices.of(x);
+        for (int set : choices.sets()) {
+            List<int[]> consistent = choices.consistent(set);
+            Checks.due(when + ": a consistent choice for " + set, consistent.size() > 0, true);
+            int[] greatest = consistent.get(0);
+            for (int[] choice : consistent) {
+                greatest = Choices.maximum(greatest, choice);
+                maximaAreConsistent(choices, choice, consistent);
+            }
+            for (int p = 0; p < choices.processes(); p++) {
+                Checks.due(when + ": probe(" + set + ", " + p + ")", x.probe(set, p),
+                        greatest[p] == choices.now(p) ? NOW : greatest[p]);
+            }
+        }
+    }
+
+    private static void maximaAreConsistent(Choices choices, int[] choice, List<int[]> others) {
+        for (int[] other : others) {
+            Checks.due("the maximum is consistent", choices.isConsistent(Choices.maximum(choice, other)), true);
+        }
+    }
+
+    private static void neededForSomeT() {
+        for (State state : State.all()) {
+            Calls x = state.real();
+            Choices choices = Choices.of(x);
+            for (int p = 0; p < choices.processes(); p++) {
+                for (int k = 0; k < 8 && x.checkpointNumber(p, k) != RecoveryLine.NONE; k++) {
+                    int number = x.checkpointNumber(p, k);
+                    Checks.due(state.name() + ": needed(" + p + ", " + number + ")", x.needed(p, number),
+                            choices.isNeeded(p, number) ? 1 : 0);
+                }
             }
         }
     }
@@ -416,6 +510,20 @@ public final class StateTest {
     }
 
     private static void settledForEveryT() {
+        for (State state : State.all()) {
+            Calls x = state.real();
+            Choices choices = Choices.of(x);
+            x.reclaim();
+            for (int slot = 0; slot < state.slots(); slot++) {
+                boolean held = state.real().message(slot, 0) != RecoveryLine.EMPTY && !choices.isSettled(slot);
+                Checks.due(state.name() + ": slot " + slot + " holds a message after reclaim()",
+                        x.message(slot, 0) != RecoveryLine.EMPTY, held);
+            }
+        }
+        oneSavesAfterTheOther();
+    }
+
+    private static void oneSavesAfterTheOther() {
         Calls x = leaningOnAnother();
         // Included in line(D), undone in line(all): not settled.
         Checks.keepsAll(x, "reclaim()", x::reclaim, 0);
