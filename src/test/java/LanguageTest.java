@@ -17,8 +17,8 @@ public final class LanguageTest {
     };
 
     // Name, parameters and body of a method or of the constructor.
-    private static final Pattern METHOD = Pattern.compile(
-            "(?ms)^    (?:public|private) (?:static )?(?:(?:int|boolean|void) )?(\\w+)\\(([^)]*)\\) \\{\n(.*?)^    \\}$");
+    private static final Pattern METHOD = Pattern.compile("(?ms)^    (?:public|private) (?:static )?"
+            + "(?:(?:int|boolean|void) )?(\\w+)\\(([^)]*)\\) \\{\n(.*?)^    \\}$");
 
     private LanguageTest() {
     }
@@ -40,8 +40,8 @@ public final class LanguageTest {
         Checks.due("lambdas, method references and texts", count(code, "->|::|\""), 0);
         Checks.due("classes", count(code, "\\bclass\\b"), 1);
         Checks.due("loops without a counter", count(code, "\\b(while|do)\\b"), 0);
-        Checks.due("loops whose counter has no bound",
-                count(code, "\\bfor \\(") - count(code, "\\bfor \\(int (\\w+) = 0; [^;]*\\b\\1 < [^;]*; \\1\\+\\+\\)"), 0);
+        Checks.due("loops with a counter and its bound",
+                count(code, "\\bfor \\(int (\\w+) = 0; [^;]*\\b\\1 < [^;]*; \\1\\+\\+\\)"), count(code, "\\bfor \\("));
     }
 
     private static void arrays(String code) {
